@@ -1,0 +1,36 @@
+/** Counts and prints the answers that are not the ones that are due. */
+final class Due {
+    private static int wrong = 0;
+
+    private Due() {
+    }
+
+    static void same(String call, long got, long want) {
+        if (got != want) {
+            wrong++;
+            System.out.println(call + " answered " + got + ", due is " + want);
+        }
+    }
+
+    static void same(String call, String got, String want) {
+        if (!got.equals(want)) {
+            wrong++;
+            System.out.println(call + " gave\n  " + got + "\ndue is\n  " + want);
+        }
+    }
+
+    static void yes(String call, boolean got) {
+        same(call, got ? 1 : 0, 1);
+    }
+
+    static void no(String call, boolean got) {
+        same(call, got ? 1 : 0, 0);
+    }
+
+    static void end() {
+        System.out.println(wrong == 0 ? "all answers are as due" : wrong + " answers are not as due");
+        if (wrong != 0) {
+            System.exit(1);
+        }
+    }
+}

@@ -1,0 +1,74 @@
+/** Promise 2: road sets the length between two towns, or is refused. */
+public final class RoadTest {
+    public static void main(String[] args) {
+        bothDirections();
+        everyPairAlone();
+        edgesOfLength();
+        wrongTowns();
+        Due.end();
+    }
+
+    private static void bothDirections() {
+        TourSolver x = Samples.fourTowns();
+        Due.same("lengths", Samples.lengths(x, 4), "0-1 1, 0-2 2, 0-3 4, 1-2 8, 1-3 16, 2-3 32, ");
+        Due.yes("road(2, 0, 40)", x.road(2, 0, 40));
+        Due.same("lengths", Samples.lengths(x, 4), "0-1 1, 0-2 40, 0-3 4, 1-2 8, 1-3 16, 2-3 32, ");
+        Due.same("using(2, 0) - walk(2, 0)", Samples.length(x, 2, 0), 40);
+        Due.yes("road(0, 2, 2)", x.road(0, 2, 2));
+        Due.yes("road(0, 2, 2) again", x.road(0, 2, 2));
+        Due.same("lengths", Samples.lengths(x, 4), "0-1 1, 0-2 2, 0-3 4, 1-2 8, 1-3 16, 2-3 32, ");
+    }
+
+    private static void everyPairAlone() {
+        for (int n = 3; n <= 7; n++) {
+            TourSolver x = new TourSolver(n);
+            for (int u = 0; u < n; u++) {
+                for (int v = 0; v < n; v++) {
+                    if (u != v) {
+                        String call = "n = " + n + ": road(" + u + ", " + v + ", ";
+                        Due.yes(call + "7)", x.road(u, v, 7));
+                        Due.same(call + "7), then length", Samples.length(x, u, v), 7);
+                        Due.same(call + "7), then shortest()", x.shortest(), 60 * n - 53);
+                        Due.yes(call + "60)", x.road(u, v, 60));
+                        Due.same(call + "60), then shortest()", x.shortest(), 60 * n);
+                    }
+                }
+            }
+        }
+    }
+
+    private static void edgesOfLength() {
+        TourSolver x = new TourSolver(3);
+        Due.yes("road(0, 1, 0)", x.road(0, 1, 0));
+        Due.same("shortest()", x.shortest(), 120);
+        Due.yes("road(0, 1, 60)", x.road(0, 1, 60));
+        Due.same("shortest()", x.shortest(), 180);
+        Due.yes("road(0, 1, 59)", x.road(0, 1, 59));
+        Due.yes("road(0, 1, 1)", x.road(0, 1, 1));
+        int[] wrong = {-1, 61, -60, 62, 100, 256, Integer.MIN_VALUE, Integer.MAX_VALUE};
+        for (int length : wrong) {
+            Due.no("road(0, 1, " + length + ")", x.road(0, 1, length));
+            Due.same("shortest()", x.shortest(), 121);
+        }
+    }
+
+    private static void wrongTowns() {
+        for (int n = 3; n <= 7; n++) {
+            TourSolver x = new TourSolver(n);
+            for (int bad : Samples.NO_TOWNS) {
+                Due.no("road(0, " + bad + ", 1)", x.road(0, bad, 1));
+                Due.no("road(" + bad + ", 0, 1)", x.road(bad, 0, 1));
+                Due.no("road(" + bad + ", " + bad + ", 1)", x.road(bad, bad, 1));
+            }
+            for (int u = 0; u < n; u++) {
+                Due.no("road(" + u + ", " + u + ", 1)", x.road(u, u, 1));
+                Due.no("road(" + u + ", n, 1)", x.road(u, n, 1));
+                Due.no("road(n, " + u + ", 1)", x.road(n, u, 1));
+                Due.no("road(" + u + ", -1, 1)", x.road(u, -1, 1));
+                Due.no("road(-1, " + u + ", 1)", x.road(-1, u, 1));
+            }
+            Due.same("shortest()", x.shortest(), 60 * n);
+            Due.same("net()", x.net(), 60 * (n - 1));
+        }
+    }
+}
