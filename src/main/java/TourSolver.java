@@ -210,10 +210,9 @@ public final class TourSolver {
         int other = lastPlaceWithGreaterTown(place);
         swapPlaces(place, other);
         // The towns behind the place fall; turned round they rise, which is their first order.
-        int left = place + 1;
-        for (int right = n - 1; left < right; right--) {
-            swapPlaces(left, right);
-            left++;
+        int swaps = (n - 1 - place) / 2;
+        for (int i = 1; i <= swaps; i++) {
+            swapPlaces(place + i, n - i);
         }
         return true;
     }

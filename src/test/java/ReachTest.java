@@ -7,6 +7,7 @@ public final class ReachTest {
             Due.same("reach(), all 0", Samples.zeros(n).reach(), 0);
         }
         twoIslands();
+        oneBridge();
         lonelyTown();
         Due.end();
     }
@@ -24,6 +25,22 @@ public final class ReachTest {
         Due.same("reach(), a bridge of 29", x.reach(), 29);
         x.road(2, 3, 0);
         Due.same("reach(), a bridge of 0", x.reach(), 2);
+    }
+
+    private static void oneBridge() {
+        for (int n = 3; n <= 7; n++) {
+            for (int place = 0; place + 1 < n; place++) {
+                for (int k = 0; k <= 60; k++) {
+                    TourSolver x = new TourSolver(n);
+                    for (int u = 0; u + 1 < n; u++) {
+                        x.road(u, u + 1, u == place ? k : 0);
+                    }
+                    String told = "n = " + n + ", a bridge of " + k + " at " + place + ": ";
+                    Due.same(told + "reach()", x.reach(), k);
+                    Due.same(told + "net()", x.net(), k);
+                }
+            }
+        }
     }
 
     private static void lonelyTown() {

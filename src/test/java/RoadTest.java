@@ -3,8 +3,6 @@ public final class RoadTest {
     public static void main(String[] args) {
         bothDirections();
         everyPairAlone();
-        edgesOfLength();
-        wrongTowns();
         Due.end();
     }
 
@@ -34,41 +32,6 @@ public final class RoadTest {
                     }
                 }
             }
-        }
-    }
-
-    private static void edgesOfLength() {
-        TourSolver x = new TourSolver(3);
-        Due.yes("road(0, 1, 0)", x.road(0, 1, 0));
-        Due.same("shortest()", x.shortest(), 120);
-        Due.yes("road(0, 1, 60)", x.road(0, 1, 60));
-        Due.same("shortest()", x.shortest(), 180);
-        Due.yes("road(0, 1, 59)", x.road(0, 1, 59));
-        Due.yes("road(0, 1, 1)", x.road(0, 1, 1));
-        int[] wrong = {-1, 61, -60, 62, 100, 256, Integer.MIN_VALUE, Integer.MAX_VALUE};
-        for (int length : wrong) {
-            Due.no("road(0, 1, " + length + ")", x.road(0, 1, length));
-            Due.same("shortest()", x.shortest(), 121);
-        }
-    }
-
-    private static void wrongTowns() {
-        for (int n = 3; n <= 7; n++) {
-            TourSolver x = new TourSolver(n);
-            for (int bad : Samples.NO_TOWNS) {
-                Due.no("road(0, " + bad + ", 1)", x.road(0, bad, 1));
-                Due.no("road(" + bad + ", 0, 1)", x.road(bad, 0, 1));
-                Due.no("road(" + bad + ", " + bad + ", 1)", x.road(bad, bad, 1));
-            }
-            for (int u = 0; u < n; u++) {
-                Due.no("road(" + u + ", " + u + ", 1)", x.road(u, u, 1));
-                Due.no("road(" + u + ", n, 1)", x.road(u, n, 1));
-                Due.no("road(n, " + u + ", 1)", x.road(n, u, 1));
-                Due.no("road(" + u + ", -1, 1)", x.road(u, -1, 1));
-                Due.no("road(-1, " + u + ", 1)", x.road(-1, u, 1));
-            }
-            Due.same("shortest()", x.shortest(), 60 * n);
-            Due.same("net()", x.net(), 60 * (n - 1));
         }
     }
 }

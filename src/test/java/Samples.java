@@ -1,8 +1,9 @@
-/** Objects and numbers that several tests start from. */
-final class Samples {
-    /** Numbers that are no town of any object. */
-    static final int[] NO_TOWNS = {-1, 7, 8, 49, -7, 1 << 16, Integer.MIN_VALUE, Integer.MAX_VALUE};
+import java.util.ArrayList;
+import java.util.Arrays;
+import java.util.List;
 
+/** Objects and trips that several tests start from. */
+final class Samples {
     private Samples() {
     }
 
@@ -59,6 +60,71 @@ final class Samples {
             x.shift(u, -60);
         }
         return x;
+    }
+
+    static TourSolver even(int n, int length) {
+        TourSolver x = new TourSolver(n);
+        for (int u = 0; u < n; u++) {
+            for (int v = u + 1; v < n; v++) {
+                x.road(u, v, length);
+            }
+        }
+        return x;
+    }
+
+    static TourSolver uneven(int n) {
+        TourSolver x = new TourSolver(n);
+        for (int u = 0; u < n; u++) {
+            for (int v = u + 1; v < n; v++) {
+                x.road(u, v, (u * 17 + v * v * 5 + 3) % 61);
+            }
+        }
+        return x;
+    }
+
+    /** The ways of this trip are step, 2 * step, 3 * step .. long, the last one home; all others 60. */
+    static TourSolver ring(int[] trip, int step) {
+        TourSolver x = new TourSolver(trip.length);
+        for (int i = 0; i < trip.length; i++) {
+            x.road(trip[i], trip[(i + 1) % trip.length], (i + 1) * step);
+        }
+        return x;
+    }
+
+    /** All trips whose second town is smaller than the last, so that they come before their reverse. */
+    static List<int[]> tripsBeforeTheirReverse(int n) {
+        List<int[]> found = new ArrayList<>();
+        addTrips(found, new int[n], 1);
+        return found;
+    }
+
+    private static void addTrips(List<int[]> found, int[] trip, int size) {
+        int n = trip.length;
+        if (size == n) {
+            if (trip[1] < trip[n - 1]) {
+                found.add(trip.clone());
+            }
+            return;
+        }
+        for (int t = 1; t < n; t++) {
+            if (!holds(trip, size, t)) {
+                trip[size] = t;
+                addTrips(found, trip, size + 1);
+            }
+        }
+    }
+
+    private static boolean holds(int[] trip, int size, int town) {
+        for (int i = 0; i < size; i++) {
+            if (trip[i] == town) {
+                return true;
+            }
+        }
+        return false;
+    }
+
+    static String text(int[] trip) {
+        return Arrays.toString(trip);
     }
 
     static int factorial(int k) {

@@ -9,7 +9,6 @@ public final class TownTest {
         isTrip("four towns, 1-2 is 60", x, 0, 1, 3, 2);
         isTrip("all 0", Samples.zeros(7), 0, 1, 2, 3, 4, 5, 6);
         firstOfSeveral();
-        wrongPlaces();
         Due.end();
     }
 
@@ -24,18 +23,6 @@ public final class TownTest {
         isTrip("0-3 and 2-4 short", x, 0, 1, 2, 4, 3);
         x.road(4, 1, 0);
         isTrip("0-3, 2-4 and 4-1 short", x, 0, 1, 4, 2, 3);
-    }
-
-    private static void wrongPlaces() {
-        for (int n = 3; n <= 7; n++) {
-            TourSolver x = new TourSolver(n);
-            Due.same("town(n)", x.town(n), TourSolver.BAD);
-            Due.same("town(n - 1)", x.town(n - 1), n - 1);
-            Due.same("town(n + 1)", x.town(n + 1), TourSolver.BAD);
-            for (int k : Samples.NO_TOWNS) {
-                Due.same("town(" + k + ")", x.town(k), TourSolver.BAD);
-            }
-        }
     }
 
     private static void isTrip(String name, TourSolver x, int... towns) {
