@@ -13,18 +13,28 @@ public final class EdgeShiftCountTest {
         Due.end();
     }
 
-    /** So many lengths of u are at the end already, the others one step before it. */
     private static void someAtTheEnd(int n, int u, int atEnd, int end, int step) {
-        TourSolver x = Samples.even(n, end);
-        for (int i = 1; i < n - atEnd; i++) {
-            x.road(u, (u + i) % n, end - step);
-        }
+        TourSolver x = manyAtTheEnd(n, u, atEnd, end, step);
         String told = "n = " + n + ", " + atEnd + " lengths of " + u + " at " + end + ": ";
         Due.same(told + "shift(u, 0)", x.shift(u, 0), 0);
         Due.same(told + "shift(u, " + step + ")", x.shift(u, step), n - 1 - atEnd);
         Due.same(told + "shift(u, " + step + ") again", x.shift(u, step), 0);
         Due.same(told + "shift(u, " + 60 * step + ")", x.shift(u, 60 * step), 0);
         Due.same(told + "shift(u, " + -60 * step + ")", x.shift(u, -60 * step), n - 1);
+        // A length that changes by less than was to be added has changed too.
+        for (int more : new int[] {2, 60}) {
+            TourSolver y = manyAtTheEnd(n, u, atEnd, end, step);
+            Due.same(told + "shift(u, " + more * step + ")", y.shift(u, more * step), n - 1 - atEnd);
+        }
+    }
+
+    /** So many lengths of u are at the end already, its others one step before it. */
+    private static TourSolver manyAtTheEnd(int n, int u, int atEnd, int end, int step) {
+        TourSolver x = Samples.even(n, end);
+        for (int i = 1; i < n - atEnd; i++) {
+            x.road(u, (u + i) % n, end - step);
+        }
+        return x;
     }
 
     private static void byNothing(int n, int u) {
