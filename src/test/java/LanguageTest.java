@@ -31,7 +31,10 @@ import javax.tools.JavaCompiler;
 import javax.tools.StandardJavaFileManager;
 import javax.tools.ToolProvider;
 
-/** The rules of LANGUAGE.md that can be read off the source (7, and in 8 the loops, are not here). */
+/**
+ * Rules of LANGUAGE.md, read off the source. Left to a reader: rule 7, the ends of loops in rule 8,
+ * and in rule 4 the comparing of arrays and the locals that name one.
+ */
 public final class LanguageTest {
     private static final String SOURCE = "src/main/java/TourSolver.java";
     private static final int MOST_PARAMETERS = 7;
