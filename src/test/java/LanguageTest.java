@@ -1,42 +1,31 @@
+import com.sun.source.tree.ArrayAccessTree;
 import com.sun.source.tree.BlockTree;
-import com.sun.source.tree.ClassTree;
-import com.sun.source.tree.CompilationUnitTree;
 import com.sun.source.tree.ExpressionTree;
 import com.sun.source.tree.IdentifierTree;
-import com.sun.source.tree.LineMap;
 import com.sun.source.tree.MemberSelectTree;
 import com.sun.source.tree.MethodInvocationTree;
 import com.sun.source.tree.MethodTree;
 import com.sun.source.tree.NewArrayTree;
 import com.sun.source.tree.PrimitiveTypeTree;
-import com.sun.source.tree.ReturnTree;
 import com.sun.source.tree.Tree;
 import com.sun.source.tree.VariableTree;
-import com.sun.source.util.JavacTask;
-import com.sun.source.util.SourcePositions;
+import com.sun.source.util.TreePathScanner;
 import com.sun.source.util.TreeScanner;
-import com.sun.source.util.Trees;
-import java.io.File;
 import java.io.IOException;
 import java.util.EnumSet;
 import java.util.HashSet;
-import java.util.List;
 import java.util.Map;
 import java.util.Set;
 import java.util.TreeMap;
 import java.util.TreeSet;
 import javax.lang.model.element.Modifier;
 import javax.lang.model.type.TypeKind;
-import javax.tools.JavaCompiler;
-import javax.tools.StandardJavaFileManager;
-import javax.tools.ToolProvider;
 
 /**
- * Rules of LANGUAGE.md, read off the source. Left to a reader: rule 7, the ends of loops in rule 8,
- * and in rule 4 the comparing of arrays and the locals that name one.
+ * Rules 1 to 6, 10 and 11 of LANGUAGE.md, read off the source; FaceTest has what else rule 1 says,
+ * and LanguageEndsTest has rules 7 and 8.
  */
 public final class LanguageTest {
-    private static final String SOURCE = "src/main/java/TourSolver.java";
     private static final int MOST_PARAMETERS = 7;
     private static final int MOST_LINES = 60;
     private static final int MOST_DEEP = 6;
@@ -54,50 +43,38 @@ public final class LanguageTest {
     private final Set<String> arrays = new HashSet<>();
     private final Set<NewArrayTree> arraysOfFields = new HashSet<>();
     private final Map<String, Set<String>> calls = new TreeMap<>();
-    private final Trees trees;
-    private final CompilationUnitTree unit;
+    private final SourceTree source;
 
-    private LanguageTest(Trees trees, CompilationUnitTree unit) {
-        this.trees = trees;
-        this.unit = unit;
+    private LanguageTest(SourceTree source) {
+        this.source = source;
     }
 
     public static void main(String[] args) throws IOException {
-        JavaCompiler compiler = ToolProvider.getSystemJavaCompiler();
-        try (StandardJavaFileManager files = compiler.getStandardFileManager(null, null, null)) {
-            JavacTask task = (JavacTask) compiler.getTask(null, files, null, List.of("-proc:none"), null,
-                files.getJavaFileObjects(new File(SOURCE)));
-            new LanguageTest(Trees.instance(task), task.parse().iterator().next()).check();
-        }
+        new LanguageTest(SourceTree.read()).check();
         Due.end();
     }
 
     private void check() {
-        Due.yes("no package", unit.getPackageName() == null);
-        Due.same("imports", unit.getImports().size(), 0);
-        Due.same("classes in the file", unit.getTypeDecls().size(), 1);
-        ClassTree type = (ClassTree) unit.getTypeDecls().get(0);
+        Due.yes("no package", source.unit.getPackageName() == null);
+        Due.same("imports", source.unit.getImports().size(), 0);
+        Due.same("classes in the file", source.unit.getTypeDecls().size(), 1);
         int fields = 0;
-        for (Tree member : type.getMembers()) {
+        for (Tree member : source.members()) {
             if (member instanceof VariableTree) {
                 fields += checkField((VariableTree) member);
             } else {
-                Due.yes(at(member) + "is a method or constructor", member instanceof MethodTree);
-                Due.no(at(member) + "is an initialiser block", member instanceof BlockTree);
+                Due.yes(source.at(member) + "is a method or constructor", member instanceof MethodTree);
+                Due.no(source.at(member) + "is an initialiser block", member instanceof BlockTree);
             }
         }
         Due.yes("fields beside the constants: " + fields, fields <= MOST_FIELDS);
-        for (Tree member : type.getMembers()) {
+        for (Tree member : source.members()) {
             if (member instanceof MethodTree) {
                 methods.add(((MethodTree) member).getName().toString());
-            }
-        }
-        for (Tree member : type.getMembers()) {
-            new Rules().scan(member, null);
-            if (member instanceof MethodTree) {
                 checkMethod((MethodTree) member);
             }
         }
+        new Rules().scan(source.unit, null);
         for (String method : calls.keySet()) {
             depth(method, new TreeSet<>());
         }
@@ -108,29 +85,28 @@ public final class LanguageTest {
         Set<Modifier> marks = field.getModifiers().getFlags();
         if (marks.contains(Modifier.STATIC)) {
             String type = field.getType().toString();
-            Due.yes(at(field) + "is a constant", marks.contains(Modifier.FINAL)
+            Due.yes(source.at(field) + "is a constant", marks.contains(Modifier.FINAL)
                 && (type.equals("int") || type.equals("long")) && field.getInitializer() != null);
+            Calls asked = new Calls();
+            asked.scan(field.getInitializer(), null);
+            Due.same(source.at(field) + "calls in a constant", asked.names.toString(), "[]");
             return 0;
         }
         if (field.getType().getKind() == Tree.Kind.ARRAY_TYPE) {
-            arrays.add(field.getName().toString());
-            Due.yes(at(field) + "is final and made here", marks.contains(Modifier.FINAL)
+            Due.yes(source.at(field) + "is final and made here", marks.contains(Modifier.FINAL)
                 && field.getInitializer() instanceof NewArrayTree);
+            arrays.add(field.getName().toString());
             arraysOfFields.add((NewArrayTree) field.getInitializer());
         }
         return 1;
     }
 
     private void checkMethod(MethodTree method) {
-        Due.yes(at(method) + "few parameters", method.getParameters().size() <= MOST_PARAMETERS);
-        Due.same(at(method) + "declared exceptions", method.getThrows().size(), 0);
-        SourcePositions places = trees.getSourcePositions();
-        LineMap lines = unit.getLineMap();
-        long first = lines.getLineNumber(places.getStartPosition(unit, method));
-        long last = lines.getLineNumber(places.getEndPosition(unit, method));
-        Due.yes(at(method) + "short", last - first < MOST_LINES);
+        Due.yes(source.at(method) + "few parameters", method.getParameters().size() <= MOST_PARAMETERS);
+        Due.same(source.at(method) + "declared exceptions", method.getThrows().size(), 0);
+        Due.yes(source.at(method) + "short", source.lines(method) <= MOST_LINES);
         Tree answer = method.getReturnType();
-        Due.yes(at(method) + "answers no array", answer == null || answer instanceof PrimitiveTypeTree);
+        Due.yes(source.at(method) + "answers no array", answer == null || answer instanceof PrimitiveTypeTree);
         Calls found = new Calls();
         found.scan(method.getBody(), null);
         calls.put(method.getName().toString(), found.names);
@@ -150,11 +126,6 @@ public final class LanguageTest {
         return below + 1;
     }
 
-    private String at(Tree tree) {
-        long place = trees.getSourcePositions().getStartPosition(unit, tree);
-        return "line " + unit.getLineMap().getLineNumber(place) + ": ";
-    }
-
     private static final class Calls extends TreeScanner<Void, Void> {
         private final Set<String> names = new TreeSet<>();
 
@@ -169,11 +140,11 @@ public final class LanguageTest {
         }
     }
 
-    private final class Rules extends TreeScanner<Void, Void> {
+    private final class Rules extends TreePathScanner<Void, Void> {
         @Override
         public Void scan(Tree tree, Void none) {
             if (tree != null) {
-                Due.no(at(tree) + tree.getKind(), BARRED.contains(tree.getKind()));
+                Due.no(source.at(tree) + tree.getKind(), BARRED.contains(tree.getKind()));
             }
             return super.scan(tree, none);
         }
@@ -181,50 +152,68 @@ public final class LanguageTest {
         @Override
         public Void visitPrimitiveType(PrimitiveTypeTree type, Void none) {
             TypeKind kind = type.getPrimitiveTypeKind();
-            Due.no(at(type) + kind, kind == TypeKind.FLOAT || kind == TypeKind.DOUBLE);
+            Due.no(source.at(type) + kind, kind == TypeKind.FLOAT || kind == TypeKind.DOUBLE);
             return super.visitPrimitiveType(type, none);
         }
 
         @Override
         public Void visitVariable(VariableTree variable, Void none) {
             String type = variable.getType().toString();
-            Due.yes(at(variable) + "type " + type, type.matches("(int|long|short|byte|char|boolean)(\\[\\])?"));
+            Due.yes(source.at(variable) + "type " + type,
+                type.matches("(int|long|short|byte|char|boolean)(\\[\\])?"));
+            if (type.endsWith("[]")) {
+                arrays.add(variable.getName().toString());
+            }
             return super.visitVariable(variable, none);
         }
 
         @Override
+        public Void visitIdentifier(IdentifierTree name, Void none) {
+            if (arrays.contains(name.toString())) {
+                // Anywhere else it would be compared, answered, or become another variable's array.
+                Due.yes(source.at(name) + name + " is indexed, measured or handed on", isOrdinaryUse(name));
+            }
+            return super.visitIdentifier(name, none);
+        }
+
+        private boolean isOrdinaryUse(IdentifierTree array) {
+            Tree around = getCurrentPath().getParentPath().getLeaf();
+            if (around instanceof ArrayAccessTree) {
+                return ((ArrayAccessTree) around).getExpression() == array;
+            }
+            if (around instanceof MethodInvocationTree) {
+                return ((MethodInvocationTree) around).getArguments().contains(array);
+            }
+            return around instanceof MemberSelectTree;
+        }
+
+        @Override
         public Void visitMemberSelect(MemberSelectTree select, Void none) {
-            boolean isOwn = select.getExpression().toString().equals("this");
-            boolean isLength = select.getExpression() instanceof IdentifierTree
-                && select.getIdentifier().contentEquals("length");
-            Due.yes(at(select) + select, isOwn || isLength);
+            String name = select.getIdentifier().toString();
+            // An array is to be named without this, so that visitIdentifier sees it.
+            boolean isOwn = select.getExpression().toString().equals("this") && !arrays.contains(name);
+            boolean isLength = select.getExpression() instanceof IdentifierTree && name.equals("length");
+            Due.yes(source.at(select) + select, isOwn || isLength);
             return super.visitMemberSelect(select, none);
         }
 
         @Override
         public Void visitNewArray(NewArrayTree made, Void none) {
-            Due.yes(at(made) + "made for a field", arraysOfFields.contains(made));
-            Due.same(at(made) + "dimensions", made.getDimensions().size(), 1);
+            Due.yes(source.at(made) + "made for a field", arraysOfFields.contains(made));
+            Due.same(source.at(made) + "dimensions", made.getDimensions().size(), 1);
             for (ExpressionTree length : made.getDimensions()) {
-                Due.yes(at(made) + "a literal or a constant", length.toString().matches("[A-Z_]+|[1-9][0-9]*"));
+                Due.yes(source.at(made) + "a literal or a constant", length.toString().matches("[A-Z_]+|[1-9][0-9]*"));
             }
             return super.visitNewArray(made, none);
         }
 
         @Override
-        public Void visitReturn(ReturnTree answer, Void none) {
-            ExpressionTree value = answer.getExpression();
-            Due.no(at(answer) + "answers an array", value != null && arrays.contains(value.toString()));
-            return super.visitReturn(answer, none);
-        }
-
-        @Override
         public Void visitMethodInvocation(MethodInvocationTree call, Void none) {
             String name = call.getMethodSelect().toString();
-            Due.yes(at(call) + name + " is a method of the class", name.equals("super") || methods.contains(name));
+            Due.yes(source.at(call) + name + " is a method of the class", name.equals("super") || methods.contains(name));
             Calls inside = new Calls();
             inside.scan(call.getArguments(), null);
-            Due.same(at(call) + "calls in the arguments", inside.names.toString(), "[]");
+            Due.same(source.at(call) + "calls in the arguments", inside.names.toString(), "[]");
             return super.visitMethodInvocation(call, none);
         }
     }
